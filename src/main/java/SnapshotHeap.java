@@ -615,7 +615,8 @@ public final class SnapshotHeap {
         /** On a copy: a white tuple is no fault as long as marking would still come to it. */
         private void markToTheEnd() {
             trial.imitate(collector.marking());
-            for (int done = 0; done < PLACES && !trial.isDone(); done++) {
+            boolean goesOn = collector.phase() == Phase.MARKING;
+            for (int done = 0; goesOn && done < PLACES && !trial.isDone(); done++) {
                 trial.markOne();
             }
         }

@@ -21,8 +21,9 @@ public final class AuditTest {
         new AuditTest().releasedTwice();
         new AuditTest().markedAtRest();
         new AuditTest().hiddenFromMarking();
-        new AuditTest().greyThatDoesNotWait();
+        new AuditTest().greyThatIsFree();
         new AuditTest().whiteBeforeTheSweep();
+        new AuditTest().greyBeforeTheSweep();
         new AuditTest().blackBehindTheSweep();
         EXPECT.end();
     }
@@ -54,7 +55,7 @@ public final class AuditTest {
         EXPECT.due("a tuple that marking would miss", audit.faults(), 1);
     }
 
-    private void greyThatDoesNotWait() {
+    private void greyThatIsFree() {
         collector.work(2);
         collector.marking().shade(garbage);
         EXPECT.due("garbage that waits", audit.faults(), 0);
@@ -68,6 +69,12 @@ public final class AuditTest {
         EXPECT.due("one swept", audit.faults(), 0);
         collector.marking().whiten(inner);
         EXPECT.due("a tuple that the sweep would take", audit.faults(), 1);
+    }
+
+    private void greyBeforeTheSweep() {
+        collector.work(3);
+        collector.marking().shade(garbage);
+        EXPECT.due("a mark that sweeping does not know", audit.faults(), 1);
     }
 
     private void blackBehindTheSweep() {

@@ -15,6 +15,7 @@ public final class CollectorTest {
         stepDropsGarbage();
         paceDropsGarbage();
         placesAreUsedAgain();
+        holdsBeyondTheLastCall();
         EXPECT.end();
     }
 
@@ -113,6 +114,25 @@ public final class CollectorTest {
         heap.pace(50);
         makeGarbage(heap, 400);
         EXPECT.yes("places are used again", storeOf(heap).top() < 20);
+    }
+
+    /** No answer is promised after 512 calls, but no call may break: here every place is in use. */
+    private static void holdsBeyondTheLastCall() throws ReflectiveOperationException {
+        SnapshotHeap heap = new SnapshotHeap();
+        heap.pace(0);
+        for (int i = 0; i < 600; i++) {
+            heap.tuple(i % 16, 0);
+        }
+        EXPECT.due("all places", storeOf(heap).tuples(), 600);
+        heap.tuple(0, 16);
+        EXPECT.due("places after a whole collection", storeOf(heap).tuples(), 17);
+        for (int i = 0; i < 380; i++) {
+            heap.tuple(1, 1);
+            heap.set(1, 0, 2);
+            heap.copy(2, 1);
+        }
+        EXPECT.due("a long chain is kept whole", heap.collect(), heap.count(0));
+        EXPECT.due("check() of a long chain", heap.check(), 0);
     }
 
     private static void makeGarbage(SnapshotHeap heap, int tuples) {

@@ -2,7 +2,7 @@ import java.util.function.LongSupplier;
 
 /** Long runs of calls, drawn by a fixed rule, with the answers of PlainHeap due for each. */
 public final class ModelRunsTest {
-    private static final int CALLS = 512;
+    private static final int MOST_CALLS = 512;
     private static final Expect EXPECT = new Expect();
 
     private final int run;
@@ -12,7 +12,9 @@ public final class ModelRunsTest {
     private final int widest;
     private final boolean wrongArguments;
     private final boolean auditEach;
+    private final boolean growing;
     private long seed;
+    private int calls;
 
     private ModelRunsTest(int run) {
         this.run = run;
@@ -21,6 +23,7 @@ public final class ModelRunsTest {
         widest = run % 3 == 0 ? 3 : 17;
         wrongArguments = run % 4 == 0;
         auditEach = run % 2 == 0;
+        growing = run % 5 == 0;
     }
 
     public static void main(String[] args) {
@@ -33,8 +36,7 @@ public final class ModelRunsTest {
     private void play() {
         int pace = below(4) == 0 ? below(51) : below(4);
         compare("pace(" + pace + ")", () -> heap.pace(pace), () -> plain.pace(pace));
-        int calls = auditEach ? CALLS / 2 : CALLS - 2;
-        for (int i = 1; i < calls; i++) {
+        while (calls < MOST_CALLS - 6) {
             playOne();
             if (auditEach) {
                 compare("check()", heap::check, plain::check);
@@ -44,22 +46,51 @@ public final class ModelRunsTest {
     }
 
     private void playOne() {
+        if (growing && below(3) > 0) {
+            playTuple(root());
+            return;
+        }
         int r = root();
         int s = root();
         int i = below(widest + 1) - (below(20) == 0 ? 1 : 0);
         switch (below(20)) {
             case 0, 1, 2, 3, 4, 5 -> playTuple(r);
-            case 6, 7 -> compare("get(" + r + ", " + s + ", " + i + ")", quiet(() -> heap.get(r, s, i)), quiet(() -> plain.get(r, s, i)));
-            case 8, 9, 10, 11, 12 -> compare("set(" + s + ", " + i + ", " + r + ")", quiet(() -> heap.set(s, i, r)), quiet(() -> plain.set(s, i, r)));
-            case 13 -> compare("copy(" + r + ", " + s + ")", quiet(() -> heap.copy(r, s)), quiet(() -> plain.copy(r, s)));
+            case 6 -> playGet(r, s, i);
+            case 7, 8 -> playTakeOut(r, s, below(3));
+            case 9, 10, 11, 12 -> playSet(s, i, r);
+            case 13 -> playCopy(r, s);
             case 14 -> playNumber(r);
             default -> playQuestion(r, s);
         }
     }
 
     private void playTuple(int r) {
+        if (growing) {
+            playCopy(15, r);
+        }
         int n = below(widest) + (wrongArguments && below(20) == 0 ? 17 : 0);
         compare("tuple(" + r + ", " + n + ")", () -> heap.tuple(r, n), () -> plain.tuple(r, n));
+        if (growing) {
+            playSet(r, below(2), 15);
+        }
+    }
+
+    private void playCopy(int r, int s) {
+        compare("copy(" + r + ", " + s + ")", quiet(() -> heap.copy(r, s)), quiet(() -> plain.copy(r, s)));
+    }
+
+    private void playGet(int r, int s, int i) {
+        compare("get(" + r + ", " + s + ", " + i + ")", quiet(() -> heap.get(r, s, i)), quiet(() -> plain.get(r, s, i)));
+    }
+
+    /** Hides a value from marking, which may not have come to the tuple yet. */
+    private void playTakeOut(int r, int s, int i) {
+        playGet(r, s, i);
+        playSet(s, i, root());
+    }
+
+    private void playSet(int s, int i, int r) {
+        compare("set(" + s + ", " + i + ", " + r + ")", quiet(() -> heap.set(s, i, r)), quiet(() -> plain.set(s, i, r)));
     }
 
     private void playNumber(int r) {
@@ -88,9 +119,12 @@ public final class ModelRunsTest {
         compare("pace(" + n + ")", () -> heap.pace(n), () -> plain.pace(n));
     }
 
+    /** Seldom: cycles that come to their end by themselves are to be seen as well. */
     private void playCollect() {
         if (below(4) == 0) {
             compare("collect()", heap::collect, plain::collect);
+        } else {
+            compare("count(1)", () -> heap.count(1), () -> plain.count(1));
         }
     }
 
@@ -102,6 +136,7 @@ public final class ModelRunsTest {
     }
 
     private void compare(String call, LongSupplier got, LongSupplier want) {
+        calls++;
         String answer = answer(got);
         String due = answer(want);
         if (!answer.equals(due)) {
