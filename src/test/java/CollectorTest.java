@@ -1,4 +1,6 @@
 import java.lang.reflect.Field;
+import java.util.List;
+import java.util.function.Consumer;
 
 /**
  * The work beside the calls, which no answer tells: that it is done, how much of it, and that a
@@ -14,6 +16,7 @@ public final class CollectorTest {
         keepsWhatIsMadeInAnOpenCycle();
         stepDropsGarbage();
         paceDropsGarbage();
+        eachCallWorks();
         placesAreUsedAgain();
         holdsBeyondTheLastCall();
         EXPECT.end();
@@ -107,6 +110,24 @@ public final class CollectorTest {
         heap.digest();
         heap.digest();
         EXPECT.due("tuples after calls of pace 50", storeOf(heap).tuples(), 1);
+    }
+
+    private static void eachCallWorks() throws ReflectiveOperationException {
+        List<Consumer<SnapshotHeap>> calls = List.of(
+            h -> h.number(1, 0), h -> h.copy(0, 0), h -> h.get(1, 0, 0), h -> h.set(0, 0, 1),
+            h -> h.step(1), h -> h.pace(3), h -> h.size(0), h -> h.value(0), h -> h.same(0, 1),
+            h -> h.count(0), SnapshotHeap::digest, SnapshotHeap::check, h -> h.tuple(1, 0));
+        for (int call = 0; call < calls.size(); call++) {
+            SnapshotHeap heap = new SnapshotHeap();
+            heap.pace(0);
+            makeGarbage(heap, 20);
+            heap.step(1);
+            heap.pace(3);
+            calls.get(call).accept(heap);
+            int steps = call == 4 ? 4 : 3;
+            int made = call == 12 ? 1 : 0;
+            EXPECT.due("tuples after call " + call, storeOf(heap).tuples(), 20 - steps + made);
+        }
     }
 
     private static void placesAreUsedAgain() throws ReflectiveOperationException {

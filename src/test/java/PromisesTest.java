@@ -65,7 +65,7 @@ public final class PromisesTest {
         SnapshotHeap heap = new SnapshotHeap();
         heap.pace(0);
         heap.number(1, 77);
-        for (int made = 1; made <= 200; made++) {
+        for (int made = 1; made <= 120; made++) {
             EXPECT.due("tuple(0, 16)", heap.tuple(0, 16), made);
             heap.get(2, 0, 15);
             EXPECT.due("the last value of a new tuple", heap.value(2), 0);
