@@ -210,8 +210,8 @@ public final class SnapshotHeap {
             return place < 0 || place > PLACES || sizes[place] == FREE ? 0 : sizes[place];
         }
 
-        int cellsOf(int place) {
-            return valuesOf(place) + HEADER_CELLS;
+        static int cellsFor(int values) {
+            return values + HEADER_CELLS;
         }
 
         /** The highest place that was ever used. */
@@ -224,7 +224,7 @@ public final class SnapshotHeap {
         }
 
         boolean hasRoomFor(int n) {
-            return usedCells + n + HEADER_CELLS <= CELL_LIMIT;
+            return usedCells + cellsFor(n) <= CELL_LIMIT;
         }
 
         /** A place for a tuple of n numbers 0; NOWHERE if there is no room. */
@@ -237,7 +237,7 @@ public final class SnapshotHeap {
                 return NOWHERE;
             }
             sizes[place] = n;
-            usedCells += cellsOf(place);
+            usedCells += cellsFor(n);
             for (int i = 0; i < n; i++) {
                 putNumber(slotOf(place, i), 0);
             }
@@ -258,7 +258,7 @@ public final class SnapshotHeap {
 
         void release(int place) {
             if (isTuplePlace(place) && releasedCount < released.length) {
-                usedCells -= cellsOf(place);
+                usedCells -= cellsFor(valuesOf(place));
                 sizes[place] = FREE;
                 released[releasedCount] = place;
                 releasedCount++;
@@ -561,11 +561,12 @@ public final class SnapshotHeap {
         }
 
         private void meetFirst(int place) {
+            int values = store.valuesOf(place);
             met++;
             metAs[place] = met;
-            metCells += store.cellsOf(place);
+            metCells += Store.cellsFor(values);
             mix(MET_FIRST);
-            mix(store.valuesOf(place));
+            mix(values);
             goInto(place);
         }
 
@@ -604,7 +605,7 @@ public final class SnapshotHeap {
             markToTheEnd();
             int faults = 0;
             int top = store.top();
-            for (int place = 1; place <= top; place++) {
+            for (int place = 1; place <= top && place < holders.length; place++) {
                 faults += walk.hasMet(place) && store.isFree(place) ? 1 : 0;
                 faults += holders[place] == 1 ? 0 : 1;
                 faults += isMarkWrong(place) ? 1 : 0;
